@@ -960,6 +960,12 @@ public final class StepMachines {
             state = READY;
         }
 
+        void growOlder() {
+            if (age < MOST) {
+                age++;
+            }
+        }
+
         void waitFor(int whom, int waitingState) {
             state = waitingState;
             waitsFor = whom;
@@ -1048,6 +1054,8 @@ public final class StepMachines {
         int round = 0;
         // Bits of those who have yielded since somebody set it to 0.
         int yielded = 0;
+        private final int[] line = new int[COROUTINES];
+        private final int[] ranks = new int[COROUTINES];
         private final int[] codes = new int[MOST_FAULTS];
         private final int[] causes = new int[MOST_FAULTS];
         private int faults = 0;
@@ -1194,45 +1202,46 @@ public final class StepMachines {
         /** Lets the longest waiting ones go: whether there was one. */
         boolean makeRound() {
             round++;
-            int left = ableBits();
-            boolean able = left != 0;
-            for (int k = 0; k < width && left != 0; k++) {
-                int who = longestWaiting(left);
-                left &= ~(1 << who);
-                coroutines[who].age = 0;
-                coroutines[who].takeIn(0);
-                makeStep(who, false);
+            int many = lineUp();
+            int going = Math.min(width, many);
+            for (int i = 0; i < going; i++) {
+                Coroutine one = coroutines[line[i]];
+                one.age = 0;
+                one.takeIn(0);
+                makeStep(line[i], false);
             }
-            growOlder(left);
-            return able;
+            for (int i = going; i < many; i++) {
+                coroutines[line[i]].growOlder();
+            }
+            return many > 0;
         }
 
         void loseRound() {
             round++;
-            growOlder(ableBits());
+            for (int i = 0; i < count; i++) {
+                if (coroutines[i].canGo()) {
+                    coroutines[i].growOlder();
+                }
+            }
         }
 
-        private int longestWaiting(int bits) {
-            int best = 0;
-            int most = Integer.MIN_VALUE;
+        /** Puts those who can go in line, the longest waiting ones ahead: how many they are. */
+        private int lineUp() {
+            int many = 0;
             for (int i = 0; i < count; i++) {
-                if ((bits >> i & 1) == 1) {
+                if (coroutines[i].canGo()) {
                     int rank = coroutines[i].age + coroutines[i].manner.weight();
-                    if (rank > most) {
-                        most = rank;
-                        best = i;
+                    int place = many;
+                    for (; place > 0 && ranks[place - 1] < rank; place--) {
+                        ranks[place] = ranks[place - 1];
+                        line[place] = line[place - 1];
                     }
+                    ranks[place] = rank;
+                    line[place] = i;
+                    many++;
                 }
             }
-            return best;
-        }
-
-        private void growOlder(int bits) {
-            for (int i = 0; i < count; i++) {
-                if ((bits >> i & 1) == 1 && coroutines[i].age < MOST) {
-                    coroutines[i].age++;
-                }
-            }
+            return many;
         }
 
         private void makeStep(int who, boolean closing) {
@@ -1475,7 +1484,7 @@ public final class StepMachines {
         int statements() {
             int place = 0;
             int many = 0;
-            for (; place < row.size(); many++) {
+            for (; many < MOST_ELEMENTS && place < row.size(); many++) {
                 place = endOfStatement(place);
                 if (place < 0) {
                     return place;

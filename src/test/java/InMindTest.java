@@ -259,6 +259,7 @@ public final class InMindTest {
         due("5 by 6", x.two(0, 1, 9), 10);
         x = Check.of("p0s0y1y1y1y1;p1g0t1;c000;c100;");
         due("6 by 6", x.two(0, 1, 9), 0);
+        due("6 by 6, of the other", x.two(1, 0, 9), 0);
     }
 
     private static void dueLost(StepMachines x, int n, int t, long above, long below) {
@@ -417,6 +418,21 @@ public final class InMindTest {
         x.rounds(9);
         x.restore();
         due("the later image", x.coroutine(0, 0), 1);
+        x = Check.of("p0d0ft1;p1y1;c100;");
+        x.image();
+        Check.text(x, "c039;c000;w1;l05;n100;");
+        due("all of it is used", x.coroutine(2, 4) * x.coroutine(1, 11), 35);
+        x.restore();
+        Check.text(x, "c100;c100;");
+        for (int c = 1; c < 3; c++) {
+            int[] wants = {0, 0, -4, 0, 0, 1, 0, 0, 100, 1, -4, 0};
+            for (int what = 0; what < wants.length; what++) {
+                due("as new as the first was " + what, x.coroutine(c, what), wants[what]);
+            }
+            for (int what = 0; what < 5; what++) {
+                due("its frame " + what, x.frame(c, 0, what), what == 0 ? 1 : 0);
+            }
+        }
     }
 
     private static void counts() {

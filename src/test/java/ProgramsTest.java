@@ -649,11 +649,12 @@ public final class ProgramsTest {
             }
             for (int c = 0; c < 8; c++) {
                 Plainly.Fault fault = y.cos.get(c).fault;
-                for (int i = 0; fault != null; i++) {
-                    due("most faults", x.cause(c, i), fault.code());
+                int many = 0;
+                for (; fault != null; many++) {
+                    due("most faults", x.cause(c, many), fault.code());
                     fault = fault.cause();
-                    due("most faults", x.coroutine(c, 11) > i ? 1 : 0, 1);
                 }
+                due("most faults, how many", x.coroutine(c, 11), many);
             }
             due("all ended", x.count(3), 255);
             x.restore();
