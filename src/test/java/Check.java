@@ -1,15 +1,48 @@
-/** What the tests share: answers that are due, and texts put on shelves. */
+/** What the tests share: answers that are due, sentences with a test of their own, texts on shelves. */
 final class Check {
     private int wrong = 0;
     private int looked = 0;
+    private int sentences = 0;
+    private String saying = "";
+    private final boolean[] told = new boolean[38];
 
     void due(String call, long got, long want) {
         looked++;
         if (got != want) {
-            wrong++;
-            if (wrong <= 50) {
-                System.out.println(call + " answered " + got + ", due is " + want);
+            isWrong(saying + call + " answered " + got + ", due is " + want);
+        }
+    }
+
+    /** A test by itself for a sentence of the document: what it throws is a wrong answer, not the end. */
+    void says(int promise, String words, Runnable test) {
+        told[promise] = true;
+        sentences++;
+        saying = "promise " + promise + ", \"" + words + "\": ";
+        int before = looked;
+        try {
+            test.run();
+        } catch (RuntimeException e) {
+            isWrong(saying + "threw " + e);
+        }
+        if (looked == before) {
+            isWrong(saying + "nothing was looked at");
+        }
+        saying = "";
+    }
+
+    /** Each promise from the first to the last has a sentence that is tested. */
+    void dueSentences(int first, int last) {
+        for (int promise = first; promise <= last; promise++) {
+            if (!told[promise]) {
+                isWrong("promise " + promise + " has no sentence with a test");
             }
+        }
+    }
+
+    private void isWrong(String what) {
+        wrong++;
+        if (wrong <= 50) {
+            System.out.println(what);
         }
     }
 
@@ -18,7 +51,8 @@ final class Check {
     }
 
     void end(String name) {
-        System.out.println(name + ": " + looked + " answers looked at, " + wrong + " wrong");
+        String said = sentences == 0 ? "" : sentences + " sentences, ";
+        System.out.println(name + ": " + said + looked + " answers looked at, " + wrong + " wrong");
         System.exit(wrong == 0 && looked > 0 ? 0 : 1);
     }
 
