@@ -63,6 +63,10 @@ public final class StepMachines {
     private static final int BYTES = 0;
     private static final int SHORTS = 1;
     private static final int INTS = 2;
+    private static final int LEAST_BYTE = -128;
+    private static final int LEAST_SHORT = -32768;
+    private static final int LEAST_INT = 0x80000000;
+    private static final int ALL_BUT_THE_SIGN = 0x7fffffff;
 
     private final Machine now = new Machine();
     private final Machine kept = new Machine();
@@ -754,7 +758,7 @@ public final class StepMachines {
 
     private int draw(int below) {
         seed = seed * 1103515245 + 12345;
-        return below <= 0 ? 0 : (seed & Integer.MAX_VALUE) / 65536 % below;
+        return below <= 0 ? 0 : (seed & ALL_BUT_THE_SIGN) / 65536 % below;
     }
 
     /** A kind with a figure: how a coroutine yields, takes in what is sent, and is weighed. */
@@ -1467,7 +1471,7 @@ public final class StepMachines {
         }
 
         int leastNumber() {
-            return kind == BYTES ? Byte.MIN_VALUE : kind == SHORTS ? Short.MIN_VALUE : Integer.MIN_VALUE;
+            return kind == BYTES ? LEAST_BYTE : kind == SHORTS ? LEAST_SHORT : LEAST_INT;
         }
     }
 

@@ -535,6 +535,12 @@ public final class EdgesInMindTest {
             due("itself", Check.of("p0t1;p1;c000;c100;").two(0, 1, 9), 0);
             due("the other in any case", Check.of("p0y0t1;p1y0;c000;c100;n000;").two(1, 0, 9), 0);
         });
+        CHECK.says(22, "neither has more by another choice alone: what they have may be below 0", () -> {
+            // 1 throws left or closed, so 0 has 6 less; closed, too, it has 8 less.
+            StepMachines x = Check.of("p0s0ft1;p1g0t1;c100;c000;");
+            due("1 is closed", x.two(0, 1, 9), 1);
+            due("told the other way round, 0 is closed", x.two(1, 0, 9), 1);
+        });
         CHECK.says(22, "the first pair", () -> {
             // Both throw if both are left; either may be closed: 1 comes ahead of 10.
             StepMachines x = Check.of("p0s0g1t1;p1g0s1t1;c000;c100;");
