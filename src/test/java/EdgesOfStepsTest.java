@@ -492,6 +492,11 @@ public final class EdgesOfStepsTest {
     private static void causes() {
         CHECK.says(9, "a FAULT HELD is the CAUSE of the other, if that has none", () -> {
             dueCauses(Check.of("p0t1ft2;c000;n000;"), 0, 2, 1);
+            for (String step : new String[] {"j0", "j1", "d5", "s3", "g3"}) {
+                dueCauses(Check.of("p0t4f" + step + ";c000;n000;"), 0, 6, 4);
+            }
+            dueCauses(Check.of("p0y0;p1t4fj0;c000;c100;n000;n100;x0;"), 1, 5, 4);
+            dueCauses(Check.of("p0y0d1;p1d2;p2d3;p3d4;p4d0;c000;n000;p0t4fd0;n000;"), 0, 7, 4);
         });
         CHECK.says(9, "a FAULT that has a CAUSE keeps it", () -> {
             // 1 holds 4, then joins 0, faulty by 2 by 1: 8 has a cause already.
