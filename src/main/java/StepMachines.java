@@ -432,7 +432,7 @@ public final class StepMachines {
             return REFUSED_LONG - NO_SUCH_ONE;
         }
         minds[0].become(now);
-        return inLeastTerms(waysEnded(0, n, c, t), power(t, n), part);
+        return inLeastTerms(waysEnded(minds, 0, n, c, t), power(t, n), part);
     }
 
     public long share(int part) {
@@ -706,21 +706,21 @@ public final class StepMachines {
     }
 
     /** In how many of t to the power of left ways the coroutine is ended behind the rounds left. */
-    private long waysEnded(int level, int left, int c, int t) {
-        Machine mind = minds[level];
+    private static long waysEnded(Machine[] levels, int level, int left, int c, int t) {
+        Machine mind = levels[level];
         if (mind.coroutines[c].isEnded()) {
             return power(t, left);
         }
-        if (left <= 0 || level + 1 >= minds.length || mind.ableBits() == 0) {
+        if (left <= 0 || level + 1 >= levels.length || mind.ableBits() == 0) {
             return 0;
         }
-        Machine next = minds[level + 1];
+        Machine next = levels[level + 1];
         next.become(mind);
         next.makeRound();
-        long ways = (t - 1) * waysEnded(level + 1, left - 1, c, t);
+        long ways = (t - 1) * waysEnded(levels, level + 1, left - 1, c, t);
         next.become(mind);
         next.loseRound();
-        return ways + waysEnded(level + 1, left - 1, c, t);
+        return ways + waysEnded(levels, level + 1, left - 1, c, t);
     }
 
     private static long power(int base, int times) {
@@ -1188,7 +1188,7 @@ public final class StepMachines {
             one.goOn();
             one.closeTop();
             if (one.isEnded()) {
-                tellJoining(who, 0);
+                tellJoining(this, who, 0);
             }
             for (int i = 0; i < STEPS_OF_A_CLOSING && !one.isEnded(); i++) {
                 makeStep(who, true);
@@ -1286,7 +1286,7 @@ public final class StepMachines {
                 }
             }
             if (one.isEnded()) {
-                tellJoining(who, 0);
+                tellJoining(this, who, 0);
             }
         }
 
@@ -1382,17 +1382,17 @@ public final class StepMachines {
         }
 
         /** One that throws by what it is told may be ended too: who joins that is told ahead of the next. */
-        private void tellJoining(int ended, int level) {
+        private static void tellJoining(Machine machine, int ended, int level) {
             if (level >= COROUTINES) {
                 return;
             }
-            for (int i = 0; i < count; i++) {
-                Coroutine one = coroutines[i];
+            for (int i = 0; i < machine.count; i++) {
+                Coroutine one = machine.coroutines[i];
                 if (one.state == JOINING && one.waitsFor == ended) {
                     one.goOn();
-                    haveEnd(one, coroutines[ended]);
+                    machine.haveEnd(one, machine.coroutines[ended]);
                     if (one.isEnded()) {
-                        tellJoining(i, level + 1);
+                        tellJoining(machine, i, level + 1);
                     }
                 }
             }
